@@ -18,7 +18,6 @@ public final class StillText {
 
     private static final int FIRST_LETTER = 'a';
     private static final int LAST_LETTER = 'z';
-    private static final int ALPHABET = 26;
     private static final int BLANK = ' ';
     private static final int LINE_FEED = '\n';
     private static final int JOINT = '-';
@@ -249,7 +248,7 @@ public final class StillText {
     }
 
     private static boolean isLetter(int sign) {
-        return within(sign, FIRST_LETTER, LAST_LETTER);
+        return sign >= FIRST_LETTER && sign <= LAST_LETTER;
     }
 
     /** The bytes that wait to be read. */
@@ -506,6 +505,11 @@ public final class StillText {
 
     /** LONG, SPREAD and what the STRAINS are made of. */
     private static final class Measures {
+        // A letter's kind is its number. Signs that have no STRAIN above or below any other are of one kind.
+        private static final int BLANK_KIND = 26;
+        private static final int OTHER_KIND = 27;
+        private static final int KINDS = 28;
+
         private static final int MOST_SHORT = 100;
         private static final int MOST_FOR_END = 10000;
         private static final int MOST_FOR_PLACE = 1000;
@@ -516,8 +520,18 @@ public final class StillText {
         private int phrase = 20;
         private int inner = 60;
         private int cut = 100;
-        private int river = 5;
-        private final int[] likeness = new int[ALPHABET * ALPHABET];
+        private final int[] places = new int[KINDS * KINDS];
+
+        Measures() {
+            places[pair(BLANK_KIND, BLANK_KIND)] = 5;
+        }
+
+        static int kindOf(int sign) {
+            if (isLetter(sign)) {
+                return sign - FIRST_LETTER;
+            }
+            return sign == BLANK ? BLANK_KIND : OTHER_KIND;
+        }
 
         int longest() {
             return longest;
@@ -546,7 +560,7 @@ public final class StillText {
             phrase = newPhrase;
             inner = newInner;
             cut = newCut;
-            river = newRiver;
+            places[pair(BLANK_KIND, BLANK_KIND)] = newRiver;
             return true;
         }
 
@@ -554,17 +568,14 @@ public final class StillText {
             if (!isLetter(a) || !isLetter(b) || !within(value, 0, MOST_FOR_PLACE)) {
                 return NONE;
             }
-            int before = likeness[pair(a, b)];
-            likeness[pair(a, b)] = value;
-            likeness[pair(b, a)] = value;
+            int before = places[pair(kindOf(a), kindOf(b))];
+            places[pair(kindOf(a), kindOf(b))] = value;
+            places[pair(kindOf(b), kindOf(a))] = value;
             return before;
         }
 
-        int strainOfPlace(int above, int below) {
-            if (above == BLANK && below == BLANK) {
-                return river;
-            }
-            return isLetter(above) && isLetter(below) ? likeness[pair(above, below)] : 0;
+        int strainOfPlace(int kindAbove, int kindBelow) {
+            return places[pair(kindAbove, kindBelow)];
         }
 
         int strainOfLine(int signs, int behind) {
@@ -586,14 +597,17 @@ public final class StillText {
             }
         }
 
-        private static int pair(int a, int b) {
-            return (a - FIRST_LETTER) * ALPHABET + b - FIRST_LETTER;
+        private static int pair(int kindAbove, int kindBelow) {
+            return kindAbove * KINDS + kindBelow;
         }
     }
 
     /** All UNITS side by side in one endless row: each LINE is a piece of it, and a - where a WORD is cut. */
     private static final class Strip {
-        private final int[] signs = new int[MOST_UNITS * (MOST_LETTERS + 1 + MOST_SPREAD)];
+        private static final int MOST_SIGNS = MOST_UNITS * (MOST_LETTERS + 1 + MOST_SPREAD);
+
+        private final int[] signs = new int[MOST_SIGNS];
+        private final int[] kinds = new int[MOST_SIGNS];
         private final int[] begins = new int[MOST_UNITS];
         private final int[] ends = new int[MOST_UNITS];
         private final int[] behind = new int[MOST_UNITS];
@@ -633,8 +647,9 @@ public final class StillText {
         }
 
         private void addSign(int sign) {
-            if (length < signs.length) {
+            if (length < MOST_SIGNS) {
                 signs[length] = sign;
+                kinds[length] = Measures.kindOf(sign);
                 length++;
             }
         }
@@ -664,17 +679,15 @@ public final class StillText {
             return i < body(first, many) ? signs[begins[first] + i] : JOINT;
         }
 
-        /** Of two UNITS that both begin LINES: the STRAIN of the places from .. to - 1 of these. */
-        int strainOfPlaces(int above, int below, int from, int to, Measures measures) {
-            if (!holds(above, 1) || !holds(below, 1)) {
-                return 0;
-            }
-            int upper = begins[above];
-            int lower = begins[below];
-            int last = Math.min(to, length - Math.max(upper, lower));
+        int beginOf(int unit) {
+            return holds(unit, 1) ? begins[unit] : 0;
+        }
+
+        /** Of two LINES that begin at these signs; the lower one is farther on here, so its bound holds for both. */
+        int strainOfPlaces(int upper, int lower, int from, int to, Measures measures) {
             int strain = 0;
-            for (int place = Math.max(from, 0); place < last; place++) {
-                strain += measures.strainOfPlace(signs[upper + place], signs[lower + place]);
+            for (int place = from; place < to && lower + place < length; place++) {
+                strain += measures.strainOfPlace(kinds[upper + place], kinds[lower + place]);
             }
             return strain;
         }
@@ -740,11 +753,13 @@ public final class StillText {
             if (first >= strip.units()) {
                 return best;
             }
+            int upper = strip.beginOf(above);
+            int lower = strip.beginOf(first);
             int done = 0;
             int places = 0;
             for (int many = 1; many <= most[first]; many++) {
                 int end = Math.min(width, strip.body(first, many));
-                places += strip.strainOfPlaces(above, first, done, end, measures);
+                places += strip.strainOfPlaces(upper, lower, done, end, measures);
                 done = end;
                 int sum = places + least[place(first, many)];
                 if (chosen == 0 || sum <= best) {
@@ -791,7 +806,6 @@ public final class StillText {
 
         void drop() {
             there = false;
-            count = 0;
         }
 
         void outdate() {

@@ -3,8 +3,16 @@ import java.util.HashMap;
 import java.util.List;
 import java.util.Map;
 
-/** Every SETTING of a small text, one by one, written straight from the document: slow, but plain. */
+/**
+ * THE SETTING written straight from the document, with texts and lists: of a small text by a look at every
+ * SETTING, of a larger one by keeping, for each LINE that can be, the best way on.
+ */
 final class AllSettings {
+    private record Way(int strain, List<Integer> manys) {
+    }
+
+    private static final int SMALL = 11;
+
     private int longest = 30;
     private int spread = 1;
     private int shortest = 1;
@@ -15,6 +23,7 @@ final class AllSettings {
     private final Map<Integer, Integer> likeness = new HashMap<>();
 
     private final List<String> units = new ArrayList<>();
+    private final Map<Integer, Way> waysOn = new HashMap<>();
     private int least;
     private List<Integer> best;
 
@@ -40,7 +49,7 @@ final class AllSettings {
         return likeness.getOrDefault(a * 256 + b, 0);
     }
 
-    /** Looks through all SETTINGS; each UNIT is held with the sign behind it. */
+    /** Takes a TEXT without a FAULT; each UNIT is held with the sign behind it. */
     void find(String text) {
         units.clear();
         for (String word : text.trim().split("[ \n]+")) {
@@ -50,9 +59,61 @@ final class AllSettings {
                 units.add(i < parts.length - 1 ? parts[i] + "-" : bare ? parts[i] + " " : parts[i]);
             }
         }
+        find();
+    }
+
+    void find(List<String> unitsWithSigns) {
+        units.clear();
+        units.addAll(unitsWithSigns);
+        find();
+    }
+
+    private void find() {
         least = StillText.NONE;
         best = null;
-        tryFrom(0, new ArrayList<>());
+        waysOn.clear();
+        if (units.size() <= SMALL) {
+            tryFrom(0, new ArrayList<>());
+            return;
+        }
+        Way way = bestWay("", 0);
+        if (way != null) {
+            least = way.strain();
+            best = way.manys();
+        }
+    }
+
+    private Way bestWay(String above, int first) {
+        Way found = null;
+        for (int many = units.size() - first; many >= 1; many--) {
+            String line = signs(first, many);
+            Way on = line.length() <= longest ? wayOn(line, first, many) : null;
+            int strain = on == null ? 0 : on.strain() + strainOfTwo(above, line);
+            if (on != null && (found == null || strain < found.strain())) {
+                found = new Way(strain, on.manys());
+            }
+        }
+        return found;
+    }
+
+    /** From this LINE on, with its own STRAIN; null if there is no way. */
+    private Way wayOn(String line, int first, int many) {
+        int key = first * 1000 + many;
+        if (waysOn.containsKey(key)) {
+            return waysOn.get(key);
+        }
+        int next = first + many;
+        Way on = next == units.size() ? new Way(0, List.of()) : bestWay(line, next);
+        if (on != null) {
+            int lack = longest - line.length();
+            int own = next == units.size() ? 0 : lack * lack * shortest + strainOfEnd(units.get(next - 1));
+            List<Integer> manys = new ArrayList<>();
+            manys.add(many);
+            manys.addAll(on.manys());
+            on = new Way(on.strain() + own, manys);
+        }
+        waysOn.put(key, on);
+        return on;
     }
 
     /** The longest next LINE is tried first, so that of several with the least STRAIN the first one counts. */
@@ -129,6 +190,11 @@ final class AllSettings {
 
     int strain() {
         return least;
+    }
+
+    /** How many UNITS each LINE of THE SETTING has; null when there is none. */
+    List<Integer> manys() {
+        return best;
     }
 
     /** As {@link Say#lines} tells a SETTING. */

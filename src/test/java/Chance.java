@@ -16,17 +16,17 @@ final class Chance {
         return below(in) == 0;
     }
 
-    /** A TEXT of at most so many UNITS. */
+    /** A TEXT of at most so many UNITS that the tape can hold. */
     String text(int most) {
         StringBuilder text = new StringBuilder();
         int units = below(most + 1);
         int longest = 1 + below(once(4) ? 12 : 6);
-        for (int k = 0; k < units; k++) {
+        for (int k = 0; k < units && (k == 0 || text.length() < 560); k++) {
             int size = 1 + below(longest);
             for (int i = 0; i < size; i++) {
                 text.append(LETTERS.charAt(below(LETTERS.length())));
             }
-            boolean joint = k < units - 1 && once(4);
+            boolean joint = k < units - 1 && text.length() < 550 && once(4);
             text.append(joint ? "-" : once(4) ? ", " : once(5) ? ". " : once(6) ? "/ " : once(8) ? " \n" : " ");
         }
         return text.toString();

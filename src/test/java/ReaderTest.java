@@ -107,6 +107,11 @@ public final class ReaderTest {
         due.is("the next TEST begins with none", still.answer(false), 0);
         due.is("so does it here", still.answer(false), 2);
         due.is("THE BEST", tell(still), "4,1,5,1,8,2");
+        still.answer(false);
+        still.test(5, 1, 2);
+        due.is("TESTS that begin anew begin with none", still.answer(false), 0);
+        still.test(5, 1, 1);
+        due.is("LEAD of the latest TESTS", still.answer(true), 1);
     }
 
     private static void nothingIsBeatenThen(Due due) {

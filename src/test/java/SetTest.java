@@ -208,14 +208,14 @@ public final class SetTest {
         return all;
     }
 
-    /** Small texts by chance, against every SETTING that there is. */
+    /** Texts by chance: small ones against every SETTING that there is, some larger ones against the best. */
     private static void againstAll(Due due) {
         Chance chance = new Chance(11);
-        for (int run = 0; run < 3000; run++) {
+        for (int run = 0; run < 3200; run++) {
             AllSettings all = new AllSettings();
             StillText still = new StillText();
             chance.measures(still, all);
-            String text = chance.text(11);
+            String text = chance.text(run < 3000 ? 11 : 80);
             Say.text(still, text);
             all.find(text);
             due.is("run " + run + ", set() of [" + text + "]", still.set(), all.strain());
