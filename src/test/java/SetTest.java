@@ -351,6 +351,11 @@ public final class SetTest {
         due.is("line(0, 1)", still.line(0, 1), 59);
         due.is("line(0, 2)", still.line(0, 2), 60);
         due.is("line(1, 1)", still.line(1, 1), 21);
+        Say.text(still, "x-".repeat(59) + "x y");
+        due.is("set() of 60 UNITS in a LINE", still.set(), 0);
+        due.is("line(0, 1)", still.line(0, 1), 60);
+        due.is("line(0, 2)", still.line(0, 2), 60);
+        due.is("line(1, 0)", still.line(1, 0), 60);
         Say.text(still, "a ".repeat(79) + "a");
         still.measure(10, 3);
         still.strains(100, 10000, 10000, 10000, 1000);
